@@ -1485,23 +1485,30 @@ public final class DownOnly {
             return sum;
         }
 
+        private boolean canTake(House house, int person, int way) {
+            if (!house.isPerson(person) || !house.isWay(way)) {
+                return false;
+            }
+            return house.leadsTo(way, at[person]) != NONE && house.openFrom(way, now) == now;
+        }
+
+        private boolean canRide(House house, int person) {
+            if (!house.isPerson(person) || rode[person] == 1) {
+                return false;
+            }
+            return seated < house.seats && house.hoistLeaves(now) == now;
+        }
+
         boolean takeWay(House house, int person, int way) {
-            if (person < 0 || person >= MOST_PEOPLE || !house.isWay(way)) {
+            if (!canTake(house, person, way)) {
                 return false;
             }
-            int end = house.leadsTo(way, at[person]);
-            if (end == NONE || house.openFrom(way, now) != now) {
-                return false;
-            }
-            leave(person, end, now + house.minutes[way]);
+            leave(person, house.leadsTo(way, at[person]), now + house.minutes[way]);
             return true;
         }
 
         boolean takeHoist(House house, int person) {
-            if (person < 0 || person >= MOST_PEOPLE || rode[person] == 1) {
-                return false;
-            }
-            if (house.hoistLeaves(now) != now || seated >= house.seats) {
+            if (!canRide(house, person)) {
                 return false;
             }
             seated++;
@@ -1534,13 +1541,17 @@ public final class DownOnly {
 
         private void act(House house, Rule rule, int person) {
             for (int clause = 0; clause < rule.clauses && clause < Rule.MOST_CLAUSES; clause++) {
-                if (rule.holds(clause, house, this, person)) {
-                    int deed = rule.deed[clause];
-                    boolean done = deed == Rule.TAKE ? takeWay(house, person, rule.way[clause])
-                            : deed == Rule.WAIT || takeHoist(house, person);
-                    if (done) {
-                        return;
+                int deed = rule.deed[clause];
+                int way = rule.way[clause];
+                boolean can = deed == Rule.TAKE ? canTake(house, person, way) : deed == Rule.WAIT || canRide(house, person);
+                // a test costs more than to see whether the deed can be done, so it is asked behind that
+                if (can && rule.holds(clause, house, this, person)) {
+                    if (deed == Rule.TAKE) {
+                        takeWay(house, person, way);
+                    } else if (deed == Rule.RIDE) {
+                        takeHoist(house, person);
                     }
+                    return;
                 }
             }
         }
@@ -1755,11 +1766,11 @@ public final class DownOnly {
 
         private boolean goAlong(House house, int way, int start, int riding) {
             int minute = get(start, riding);
-            int end = house.leadsTo(way, start);
-            if (minute > LAST_MINUTE || end == NONE) {
+            if (minute > LAST_MINUTE) {
                 return false;
             }
-            int off = house.openFrom(way, minute);
+            int end = house.leadsTo(way, start);
+            int off = end == NONE ? NONE : house.openFrom(way, minute);
             return off != NONE && put(end, riding, off + house.minutes[way]);
         }
 

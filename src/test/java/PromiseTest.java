@@ -137,6 +137,11 @@ public final class PromiseTest {
         houseFault("room 3x", 6, 0);
         houseFault("rooms 3", 0, 0);
         houseFault("Room 3", 0, 0);
+        houseFault("roomz 3", 0, 0);
+        houseFault("room{3", 4, 0);
+        houseFault("room`3", 4, 0);
+        houseFault("room/3", 4, 0);
+        houseFault("room 3:", 6, 0);
         houseFault("rooM 3", 0, 0);
         houseFault("room -3", 5, 0);
         houseFault(" ;room 3", 1, 0);
@@ -160,6 +165,7 @@ public final class PromiseTest {
         houseFault("hoist 0 1 1", 6, 1);
         houseFault("hoist 61 1 1", 6, 1);
         houseFault("hoist 5 10 1", 8, 1);
+        houseFault("hoist 5 0 1", 8, 1);
         houseFault("hoist 5 1 0", 10, 1);
         houseFault("hoist 5 1 121", 10, 1);
         houseFault("hoist 5 1 1", 11, 0);
@@ -170,6 +176,7 @@ public final class PromiseTest {
         houseFault(times("room1", 17, ";"), 16 * 6, 4);
         houseFault("room1;" + times("person0", 9, ";"), 6 + 8 * 8, 4);
         houseFault("room1;room0;" + times("flight0 1 9", 25, ";"), 12 + 12 * 24, 4);
+        houseFault("room1;room1;" + times("passage0 1 9", 24, ";") + ";passage0 1 9", 12 + 13 * 24, 4);
         houseLimits();
         houseStays();
     }
@@ -509,6 +516,9 @@ public final class PromiseTest {
         due("he has ridden", x.ahead(0, 2), 1);
         x.tick(2, 1440);
         due("at 1440", x.ahead(1, 2), 1);
+        DownOnly late = told("room 1;room 0;flight 0 1 1;person 0", "take 0 if now >= 1440");
+        late.tick(0, 20);
+        due("till 1440", late.ahead(0, 1), 0);
         DownOnly y = told("", "wait");
         for (int what = 0; what < 3; what++) {
             due("without a HOUSE", y.ahead(0, what), 0);
@@ -587,6 +597,8 @@ public final class PromiseTest {
         due("rows of flights side by side", y.downs(0, 2, 0), 5);
         due("the LONGEST", y.downs(0, 2, 1), 2);
         due("the least first", y.downs(0, 2, 2), 2);
+        due("from the highest", told("room 40;room 0;flight 0 1 1").downs(0, 1, 0), 1);
+        due("from the highest", told("room 40;room 0;flight 0 1 1").downs(0, 1, 1), 1);
         StringBuilder s = new StringBuilder("room8;room7;room6;room5;room4;room3;room2;room1;room0");
         for (int k = 0; k < 8; k++) {
             s.append(times(";flight" + k + " " + (k + 1) + " 1", 3, ""));
@@ -773,6 +785,13 @@ public final class PromiseTest {
         due("where he goes by", y.brought(1, 2, 2), 15);
         due("and back", y.brought(1, 9, 0), 10);
         due("and not again", y.brought(1, 10, 0), -2);
+        DownOnly chain = told("room 4;room 3;room 2;room 1;flight 0 1 5;flight 1 2 5;flight 2 3 5");
+        chain.trip(2, 20, 3);
+        chain.trip(1, 10, 2);
+        chain.trip(0, 0, 1);
+        due("by three, the last told first", chain.brought(0, 0, 3), 25);
+        due("by two", chain.brought(1, 10, 3), 25);
+        due("the first is gone", chain.brought(0, 1, 3), -2);
         DownOnly z = told("room 2;room 0;flight 0 1 5;door 0 50 60");
         z.trip(0, 0, 1);
         due("when he sets off, not when he begins", z.brought(0, 50, 1), 55);
@@ -814,6 +833,15 @@ public final class PromiseTest {
         y.rider(0);
         due("no hoist", y.rides(0), -1);
         due("no hoist", y.rides(20), -1);
+        DownOnly each = told("room 1;hoist 60 1 1");
+        int[] crowd = {9, 9, 10, 9};
+        int[] ride = {9, 10, 12, 11};
+        for (int minute : crowd) {
+            each.rider(minute);
+        }
+        for (int k = 0; k < crowd.length; k++) {
+            due("rides every minute " + k, each.rides(k), ride[k]);
+        }
         DownOnly z = told("room 1;hoist 60 1 120");
         for (int k = 0; k < 3; k++) {
             z.rider(1319 + k);
@@ -907,6 +935,14 @@ public final class PromiseTest {
         due("the hoist is gone", x.beds(), 5);
         x.tick(0, 59);
         due("at 1440", x.beds(), 5);
+        DownOnly close = told("room 3;room 3;passage 0 1 20;person 0", "wait");
+        close.tick(0, 1399);
+        close.go(0, 0);
+        due("home by 1439", close.beds(), 0);
+        close.tick(0, 20);
+        due("home by 1439", close.beds(), 0);
+        close.tick(0, 1);
+        due("home by 1440", close.beds(), 1);
         DownOnly y = told("room 3;room 1;flight 0 1 60;person 1;person 0;person 0", "take 0 if person = 2 and now = 1380");
         y.go(1, 0);
         due("no hoist", y.beds(), 2);
