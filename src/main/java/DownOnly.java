@@ -45,6 +45,9 @@ public final class DownOnly {
     private final Walk walk = new Walk();
     private Planner planner;
     private final int[] lies = new int[MOST_ROOMS];
+    private final int[] rows = new int[MOST_ROOMS];
+    private final int[] longest = new int[MOST_ROOMS];
+    private final int[] comesTo = new int[MOST_ROOMS];
     private final int[] rideAt = new int[MOST_RIDERS];
     private final int[] goDown = new int[1 << MOST_SHOPS];
 
@@ -215,14 +218,11 @@ public final class DownOnly {
         if (!house.isRoom(from) || !house.isRoom(to) || what < 0 || what > 2) {
             return NONE;
         }
-        if (what == 0) {
-            return house.rowsDown(from, to, lies);
+        house.reckonDowns(to, rows, longest);
+        if (what == 2) {
+            return house.firstOfLongest(from, longest);
         }
-        int longest = house.longestDown(from, to, lies);
-        if (what == 1 || longest <= 0) {
-            return what == 1 ? longest : NOT_SO;
-        }
-        return house.firstOfLongest(from, lies);
+        return what == 0 ? rows[from] : longest[from];
     }
 
     public int errand(int room, int from, int till, int worth) {
@@ -501,12 +501,12 @@ public final class DownOnly {
             return NONE;
         }
         if (what == 2) {
-            return house.twos(NONE, lies);
+            return house.twos(NONE, comesTo);
         }
         int flight = NOT_SO;
         int most = NOT_SO;
         for (int way = 0; way < house.ways; way++) {
-            int twos = house.passage[way] == 0 ? house.twos(way, lies) : NOT_SO;
+            int twos = house.passage[way] == 0 ? house.twos(way, comesTo) : NOT_SO;
             if (twos > most) {
                 most = twos;
                 flight = way;
@@ -701,7 +701,8 @@ public final class DownOnly {
                 return false;
             }
             for (int k = 0; k < word.length(); k++) {
-                if (byteAt(first + k) != word.charAt(k)) {
+                int at = first + k;
+                if (at < 0 || at >= bytes.length || bytes[at] != word.charAt(k)) {
                     return false;
                 }
             }
@@ -832,50 +833,34 @@ public final class DownOnly {
             return off > LAST_MINUTE ? NONE : off;
         }
 
-        int rowsDown(int start, int end, int[] rows) {
+        /** For each room, of the rows of flights to the end: how many, and the flights of the longest. */
+        void reckonDowns(int end, int[] rows, int[] longest) {
             // a row ends lower than it starts, so lower rooms are reckoned first
             for (int level = 0; level <= HIGHEST; level++) {
-                for (int room = 0; room < rooms && room < rows.length; room++) {
+                for (int room = 0; room < rooms && room < MOST_ROOMS; room++) {
                     if (height[room] == level) {
-                        rows[room] = room == end ? 1 : rowsBelow(room, rows);
+                        reckonDownsFrom(room, end, rows, longest);
                     }
                 }
             }
-            return start >= 0 && start < rows.length ? rows[start] : 0;
         }
 
-        private int rowsBelow(int room, int[] rows) {
-            int sum = 0;
+        private void reckonDownsFrom(int room, int end, int[] rows, int[] longest) {
+            if (room < 0 || room >= rows.length || room >= longest.length) {
+                return;
+            }
+            rows[room] = room == end ? 1 : 0;
+            longest[room] = room == end ? 0 : NOT_SO;
             for (int way = 0; way < ways; way++) {
-                if (isFlightFrom(way, room) && to[way] < rows.length) {
-                    sum = Math.min(MOST_DOWNS, sum + rows[to[way]]);
+                boolean fits = isFlightFrom(way, room) && to[way] < rows.length && to[way] < longest.length;
+                if (fits && rows[to[way]] > 0) {
+                    rows[room] = Math.min(MOST_DOWNS, rows[room] + rows[to[way]]);
+                    longest[room] = Math.max(longest[room], longest[to[way]] + 1);
                 }
             }
-            return sum;
         }
 
-        int longestDown(int start, int end, int[] longest) {
-            for (int level = 0; level <= HIGHEST; level++) {
-                for (int room = 0; room < rooms && room < longest.length; room++) {
-                    if (height[room] == level) {
-                        longest[room] = room == end ? 0 : longestBelow(room, longest);
-                    }
-                }
-            }
-            return start >= 0 && start < longest.length ? longest[start] : NOT_SO;
-        }
-
-        private int longestBelow(int room, int[] longest) {
-            int most = NOT_SO;
-            for (int way = 0; way < ways; way++) {
-                if (isFlightFrom(way, room) && to[way] < longest.length && longest[to[way]] >= 0) {
-                    most = Math.max(most, longest[to[way]] + 1);
-                }
-            }
-            return most;
-        }
-
-        /** Asked behind longestDown, whose row it reads. */
+        /** The least flight by which a longest row begins; asked behind reckonDowns, whose row it reads. */
         int firstOfLongest(int room, int[] longest) {
             if (room < 0 || room >= longest.length) {
                 return NOT_SO;
