@@ -76,10 +76,11 @@ public final class DownOnly {
 
     public int house() {
         HouseReader reader = new HouseReader(tape, draft);
-        if (!reader.readAll()) {
+        boolean told = reader.readAll();
+        tape.length = 0;
+        if (!told) {
             return NOT_SO - tape.fault;
         }
-        tape.length = 0;
         state.moveInto(draft);
         return state.house.rooms;
     }
@@ -93,10 +94,11 @@ public final class DownOnly {
             rules[rulesTold] = new Rule();
         }
         RuleReader reader = new RuleReader(tape, rules[rulesTold]);
-        if (!reader.readAll()) {
+        boolean told = reader.readAll();
+        tape.length = 0;
+        if (!told) {
             return NOT_SO - tape.fault;
         }
-        tape.length = 0;
         rulesTold++;
         return rulesTold - 1;
     }
@@ -497,7 +499,7 @@ public final class DownOnly {
 
     public int upward(int what) {
         House house = state.house;
-        if (what < 0 || what > 2) {
+        if (house.rooms == 0 || what < 0 || what > 2) {
             return NONE;
         }
         if (what == 2) {
@@ -526,7 +528,7 @@ public final class DownOnly {
 
     public int drawn(int rule, int m, int what) {
         Rule by = ruleTold(rule);
-        if (by == null || m < 1 || m > MOST_DRAWN_DAYS || what < 0 || what > 1) {
+        if (state.house.rooms == 0 || by == null || m < 1 || m > MOST_DRAWN_DAYS || what < 0 || what > 1) {
             return NONE;
         }
         int x = state.lists.x;

@@ -508,8 +508,9 @@ final class Model {
             plan = readHouse(tape.toString());
         } catch (Fault f) {
             return -2 - f.code;
+        } finally {
+            tape.setLength(0);
         }
-        tape.setLength(0);
         t.plan = plan;
         t.people = People.at(plan.homes);
         t.errands.clear();
@@ -525,8 +526,9 @@ final class Model {
             rules.add(readRule(tape.toString()));
         } catch (Fault f) {
             return -2 - f.code;
+        } finally {
+            tape.setLength(0);
         }
-        tape.setLength(0);
         return rules.size() - 1;
     }
 
@@ -1011,7 +1013,7 @@ final class Model {
     }
 
     int upward(int what) {
-        if (!within(what, 2)) {
+        if (t.plan.rooms() == 0 || !within(what, 2)) {
             return NONE;
         }
         int flight = -2;
@@ -1035,7 +1037,7 @@ final class Model {
     }
 
     int drawn(int rule, int m, int what) {
-        if (!isRule(rule) || m < 1 || m > 20 || !within(what, 1)) {
+        if (t.plan.rooms() == 0 || !isRule(rule) || m < 1 || m > 20 || !within(what, 1)) {
             return NONE;
         }
         long x = t.x;

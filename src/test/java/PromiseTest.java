@@ -42,14 +42,14 @@ public final class PromiseTest {
         DownOnly x = new DownOnly();
         due("the fault of house '" + text + "'", Texts.house(x, text), fault(place, kind));
         due("ROOMS behind the fault", x.count(0), 0);
-        due("the TAPE behind the fault", x.count(10), text.length());
+        due("the TAPE behind the fault", x.count(10), 0);
     }
 
     private static void ruleFault(String text, int place, int kind) {
         DownOnly x = new DownOnly();
         due("the fault of rule '" + text + "'", Texts.rule(x, text), fault(place, kind));
         due("RULES behind the fault", x.count(3), 0);
-        due("the TAPE behind the fault", x.count(10), text.length());
+        due("the TAPE behind the fault", x.count(10), 0);
     }
 
     private static void promise1NewObject() {
@@ -203,10 +203,14 @@ public final class PromiseTest {
         x.rider(5);
         x.customer(0, 1);
         x.seed(99);
+        int[] due = {5, 6, 3, 1, 7, 1, 1, 1, 1, 99, 0, 10, 1, 30};
         due("a fault", Texts.house(x, "room 50"), fault(5, 1));
-        due("all stays: ROOMS", x.count(0), 5);
-        due("all stays: NOW", x.count(4), 7);
-        due("all stays: ERRANDS", x.count(5), 1);
+        for (int what = 0; what < due.length; what++) {
+            due("all stays, but the TAPE is empty: " + what, x.count(what), due[what]);
+        }
+        due("all stays: where one is", x.person(0, 0), 4);
+        due("the TAPE was emptied", x.house(), fault(0, 0));
+        due("fed anew", x.feed(0, 0, 0, 0, 0), 20);
         due("another house", Texts.house(x, "room 1;person 0"), 1);
         due("WAYS", x.count(1), 0);
         due("RULES stay", x.count(3), 1);
@@ -225,6 +229,8 @@ public final class PromiseTest {
         due("TAPE", x.count(10), 0);
         ruleFaults();
         due("a fault", Texts.rule(x, "take"), fault(4, 0));
+        due("the TAPE was emptied", x.rule(), fault(0, 0));
+        due("fed anew", x.feed(0, 0, 0, 0, 0), 20);
         due("the sixth", Texts.rule(x, "wait"), 5);
         due("a seventh", Texts.rule(x, "wait"), -1);
         due("nothing happened", x.count(10), 4);
@@ -965,6 +971,24 @@ public final class PromiseTest {
         due("twos now", z.upward(2), 2);
         due("no what", z.upward(3), -1);
         due("no what", z.upward(-1), -1);
+        DownOnly none = new DownOnly();
+        none.image(0);
+        due("a fault", Texts.house(none, "room 50"), fault(5, 1));
+        upwardWithoutHouse(none);
+        Texts.house(none, "room 2;room 1;flight 0 1 1");
+        due("with a HOUSE", none.upward(0), 0);
+        none.back(0);
+        upwardWithoutHouse(none);
+        DownOnly alone = told("room 2");
+        due("no flight", alone.upward(0), -2);
+        due("no flight", alone.upward(1), -2);
+        due("no twos", alone.upward(2), 0);
+    }
+
+    private static void upwardWithoutHouse(DownOnly x) {
+        for (int what = -1; what <= 3; what++) {
+            due("without a HOUSE " + what, x.upward(what), -1);
+        }
     }
 
     private static void promise27Seed() {
@@ -1002,6 +1026,12 @@ public final class PromiseTest {
         int first = x.drawn(0, 3, 0);
         due("x as it was", x.drawn(0, 3, 0), first);
         due("x as it was", x.seed(0), 42);
+        DownOnly none = told("", "wait");
+        due("without a HOUSE", none.drawn(0, 1, 0), -1);
+        due("without a HOUSE", none.drawn(0, 20, 1), -1);
+        Texts.house(none, "room 1");
+        due("without PEOPLE", none.drawn(0, 20, 0), 0);
+        due("without PEOPLE", none.drawn(0, 20, 1), 0);
     }
 
     /** In the house of promise 28 who is drawn into room 0 comes to room 3, by rule 1. */
