@@ -296,7 +296,7 @@ public final class DownOnly {
 
     public int trips(int trip, int k) {
         Lists lists = state.lists;
-        if (trip < 0 || trip >= lists.trips || k < -1) {
+        if (trip < 0 || trip >= lists.trips || trip >= MOST_TRIPS || k < -1) {
             return NONE;
         }
         if (k == -1) {
@@ -337,7 +337,7 @@ public final class DownOnly {
         walk.begin(state.house, state.lists, trip);
         for (int gone = 0; gone < DAY; gone++) {
             int start = walk.room;
-            if (!walk.step(state.house)) {
+            if (!state.house.isRoom(start) || !walk.step(state.house) || !state.house.isRoom(walk.room)) {
                 return changed;
             }
             taken |= lies[start] <= walk.off;
@@ -374,7 +374,7 @@ public final class DownOnly {
             return rideAt[what];
         }
         int most = NOT_SO;
-        for (int k = 0; k < lists.riders; k++) {
+        for (int k = 0; k < lists.riders && k < MOST_RIDERS; k++) {
             if (rideAt[k] != NOT_SO) {
                 most = Math.max(most, rideAt[k] - lists.riderMinute[k]);
             }
@@ -476,7 +476,7 @@ public final class DownOnly {
             return NONE;
         }
         int bits = 0;
-        for (int person = 0; person < state.house.people; person++) {
+        for (int person = 0; person < state.house.people && person < MOST_PEOPLE; person++) {
             if (!comesHome(person)) {
                 bits |= 1 << person;
             }
@@ -486,6 +486,9 @@ public final class DownOnly {
 
     private boolean comesHome(int person) {
         Day day = state.day;
+        if (!state.house.isPerson(person)) {
+            return true;
+        }
         int home = state.house.home[person];
         boolean onWay = day.at[person] == NONE;
         if (day.now > LAST_MINUTE) {
@@ -507,7 +510,7 @@ public final class DownOnly {
         }
         int flight = NOT_SO;
         int most = NOT_SO;
-        for (int way = 0; way < house.ways; way++) {
+        for (int way = 0; way < house.ways && way < MOST_WAYS; way++) {
             int twos = house.passage[way] == 0 ? house.twos(way, comesTo) : NOT_SO;
             if (twos > most) {
                 most = twos;
@@ -675,11 +678,12 @@ public final class DownOnly {
             int at = start;
             digits = 0;
             value = 0;
-            while (at < length && isDigit(byteAt(at))) {
+            // no helper is asked here: calls stay at most eight deep
+            while (at >= 0 && at < length && at < bytes.length && bytes[at] >= '0' && bytes[at] <= '9') {
                 digits++;
                 // a longer number is refused by its digits, so its value need not go on
                 if (digits <= MOST_DIGITS) {
-                    value = value * 10 + byteAt(at) - '0';
+                    value = value * 10 + bytes[at] - '0';
                 }
                 at++;
             }
@@ -854,7 +858,7 @@ public final class DownOnly {
             rows[room] = room == end ? 1 : 0;
             longest[room] = room == end ? 0 : NOT_SO;
             for (int way = 0; way < ways; way++) {
-                boolean fits = isFlightFrom(way, room) && to[way] < rows.length && to[way] < longest.length;
+                boolean fits = isFlightFrom(way, room) && isRoom(to[way]) && to[way] < rows.length && to[way] < longest.length;
                 if (fits && rows[to[way]] > 0) {
                     rows[room] = Math.min(MOST_DOWNS, rows[room] + rows[to[way]]);
                     longest[room] = Math.max(longest[room], longest[to[way]] + 1);
@@ -868,7 +872,7 @@ public final class DownOnly {
                 return NOT_SO;
             }
             for (int way = 0; way < ways; way++) {
-                boolean fits = isFlightFrom(way, room) && to[way] < longest.length;
+                boolean fits = isFlightFrom(way, room) && isRoom(to[way]) && to[way] < longest.length;
                 if (fits && longest[to[way]] >= 0 && longest[to[way]] + 1 == longest[room]) {
                     return way;
                 }
