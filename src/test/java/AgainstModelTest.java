@@ -37,7 +37,7 @@ public final class AgainstModelTest {
     }
 
     private int room() {
-        return oneOf(x.count(0));
+        return oneOf(m.count(0));
     }
 
     private int minute() {
@@ -59,7 +59,7 @@ public final class AgainstModelTest {
         if (r.nextInt(5) > 0) {
             same("end(0)", x.end(0), m.end(0));
         }
-        int n = x.count(10) + text.length();
+        int n = m.count(10) + text.length();
         feed(text);
         log.add(text);
         same("end", x.end(n), m.end(n));
@@ -77,23 +77,23 @@ public final class AgainstModelTest {
         int t = minute();
         int u = minute();
         int w = oneOf(3);
-        int rule = oneOf(x.count(3));
+        int rule = oneOf(m.count(3));
         String at = "(" + a + ", " + t + ", " + b + ", " + u + ", " + hoist + ", what " + w + ", rule " + rule + ")";
         switch (r.nextInt(34)) {
             case 0 -> same("room" + at, x.room(a, w), m.room(a, w));
             case 1 -> {
-                int k = oneOf(x.count(1));
+                int k = oneOf(m.count(1));
                 int what = oneOf(6);
                 same("way " + k + " " + what, x.way(k, what), m.way(k, what));
             }
             case 2 -> {
-                int k = oneOf(x.count(2));
+                int k = oneOf(m.count(2));
                 int what = oneOf(5);
                 same("person " + k + " " + what, x.person(k, what), m.person(k, what));
             }
             case 3, 4 -> {
-                int p = oneOf(x.count(2));
-                int k = r.nextInt(3) == 0 ? 24 : oneOf(x.count(1));
+                int p = oneOf(m.count(2));
+                int k = r.nextInt(3) == 0 ? 24 : oneOf(m.count(1));
                 same("go " + p + " " + k, asInt(x.go(p, k)), asInt(m.go(p, k)));
             }
             case 5, 6 -> {
@@ -116,7 +116,7 @@ public final class AgainstModelTest {
                 same("trip " + from + at, x.trip(from, t, b), m.trip(from, t, b));
             }
             case 20, 21 -> {
-                int k = oneOf(x.count(6));
+                int k = oneOf(m.count(6));
                 int way = r.nextInt(30) == 0 ? oneOf(3000) : r.nextInt(6) - 1;
                 same("trips " + k + " " + way, x.trips(k, way), m.trips(k, way));
             }
@@ -166,7 +166,8 @@ public final class AgainstModelTest {
             tell(false);
         }
         int calls = 60 + r.nextInt(200);
-        for (int k = 0; k < calls && !wrong; k++) {
+        // an object is asked no more than 512 calls, and a text is told by up to 23 of them
+        for (int k = 0; k < calls && !wrong && log.size() < 512 - 16 - 23; k++) {
             if (r.nextInt(40) == 0) {
                 tell(r.nextInt(3) == 0);
             } else {
