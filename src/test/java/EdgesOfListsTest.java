@@ -262,6 +262,21 @@ public final class EdgesOfListsTest {
         order(x, 6, 2, 1, 2, 4, 5, 3, 0);
     }
 
+    @Edges.Says("6: how many CUSTOMERS (of these SHOPS) go down.")
+    private static void p24_customersFromOrToOtherShopsDoNotCount() {
+        DownOnly x = new DownOnly();
+        x.customer(1, 3);
+        x.customer(3, 0);
+        x.customer(2, 5);
+        x.customer(0, 1);
+        order(x, 1, 0, 0);
+        order(x, 2, 1, 0, 1);
+        order(x, 3, 1, 0, 1, 2);
+        order(x, 4, 2, 0, 1, 2, 3);
+        order(x, 5, 2, 0, 1, 2, 3, 4);
+        order(x, 6, 3, 0, 1, 2, 3, 4, 5);
+    }
+
     @Edges.Says("NONE without these (a place beyond n, too).")
     private static void p24_noneWithoutThese() {
         DownOnly x = new DownOnly();
@@ -405,6 +420,16 @@ public final class EdgesOfListsTest {
         upward(Edges.told("room 2;room 1;room 0;room 0;flight 0 1 1;flight 1 2 1;passage 2 3 1"), 1, 9, 7);
     }
 
+    @Edges.Says("UPWARD: of flights, were it a passage, that by which most twos (from, to, unlike ROOMS) have a way")
+    private static void p26_ofTheHouseThereIsNow() {
+        DownOnly x = Edges.told("room 2;room 1;room 0;flight 0 1 1;flight 1 2 1");
+        upward(x, 0, 4, 3);
+        Texts.house(x, "room 2;room 1;room 0;flight 0 1 1");
+        upward(x, 0, 2, 1);
+        Texts.house(x, "room 2;room 1;room 0");
+        upward(x, -2, -2, 0);
+    }
+
     @Edges.Says("(by WAYS alone, doors not asked),")
     private static void p26_byWaysAloneDoorsNotAsked() {
         upward(Edges.told("room 2;room 0;flight 0 1 60;door 0 0 0;hoist 1 9 1"), 0, 2, 1);
@@ -537,6 +562,11 @@ public final class EdgesOfListsTest {
         DownOnly y = Edges.told(house16(10, 10, 5, 12, 11, 14, 15, 3), "wait");
         due(y.drawn(0, 1, 0), 0);
         due(y.drawn(0, 2, 0), 8);
+        // of two PEOPLE each day takes two DRAWS alone
+        DownOnly two = Edges.told(house16(FIRST[2], FIRST[3]), "wait");
+        due(two.drawn(0, 1, 0), 0);
+        due(two.drawn(0, 2, 0), 2);
+        due(two.drawn(0, 3, 0), 2);
     }
 
     @Edges.Says("DRAWN DAYS by a RULE: m times (1 to 20) all PEOPLE, by their numbers, are in the ROOM that is a DRAW mod ROOMS at minute 0, nobody has ridden;")

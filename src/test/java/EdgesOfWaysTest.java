@@ -157,6 +157,7 @@ public final class EdgesOfWaysTest {
         }
         DownOnly x = Edges.told(s.toString());
         due(x.still(0, 0, false), 65535);
+        due(x.still(0, 0, true), 65535);
         due(x.still(15, 539, false), 65535);
         due(x.still(15, 540, false), 65534);
         due(x.still(15, 1439, false), 32768);
@@ -401,6 +402,19 @@ public final class EdgesOfWaysTest {
         best(x, 0, 1430, true, 990, 1023, 1430);
         best(x, 0, 1431, true, 891, 511, 1431);
         best(x, 0, 1439, true, 99, 1, 1439);
+    }
+
+    @Edges.Says("when it is done (the minute given, if it is empty).")
+    private static void p16_whenTheLastOfTheFirstAndTheTenthIsDone() {
+        DownOnly x = Edges.told("room 1;room 0;flight 0 1 9");
+        x.errand(1, 20, 20, 5);
+        for (int k = 1; k < 9; k++) {
+            x.errand(0, 0, 9, 5);
+        }
+        x.errand(1, 5, 5, 5);
+        best(x, 1, 0, false, 10, 513, 20);
+        best(x, 1, 6, false, 5, 1, 20);
+        best(x, 1, 0, true, 10, 513, 20);
     }
 
     @Edges.Says("of several the one that is done soonest (the last one's minute),")
@@ -810,6 +824,18 @@ public final class EdgesOfWaysTest {
         due(x.brought(0, 1435, 1), -2);
         // the hoist brings nothing
         due(x.brought(2, 0, 0), -2);
+    }
+
+    @Edges.Says("BROUGHT: a thing that lies in a ROOM from a minute on, to another one: by TRIPS that are in the ROOM where it lies when they SET OFF (or begin) there, not ahead of it,")
+    private static void p20_aTripByNoWayBringsNothing() {
+        DownOnly x = Edges.told(HOUSE);
+        x.trip(0, 100, 1);
+        x.trip(0, 10, 0);
+        x.trip(0, 40, 1);
+        due(x.brought(0, 50, 0), 50);
+        due(x.brought(0, 50, 1), 105);
+        due(x.brought(0, 40, 1), 45);
+        due(x.brought(1, 50, 0), -2);
     }
 
     @Edges.Says("BROUGHT; -2: not today;")

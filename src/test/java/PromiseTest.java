@@ -1003,7 +1003,7 @@ public final class PromiseTest {
 
     private static void promise28Drawn() {
         DownOnly x = told("room 3;room 2;room 1;room 0;flight 0 3 1;person 3;person 0;person 2", "wait", "take 0", "take 0 if now = 1439");
-        // from 0: 12345, 1406932606, 654583775, 1449466924, ... gives DRAWS 0, 21468, 9988, 22117, 15082 and so on
+        // from 0: 12345, 1406932606, 654583775, 1449466924, ... gives DRAWS 0, 21468, 9988, 22117, 3498 and so on
         due("HOME of a day", x.drawn(0, 1, 0), 1);
         due("nobody on the way", x.drawn(0, 1, 1), 0);
         due("x as it was", x.count(9), 0);
