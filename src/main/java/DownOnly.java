@@ -1198,6 +1198,7 @@ public final class DownOnly {
         private final Tape tape;
         private final Rule rule;
         private int parts;
+        private int compared;
 
         RuleReader(Tape tape, Rule rule) {
             this.tape = tape;
@@ -1250,38 +1251,36 @@ public final class DownOnly {
             return true;
         }
 
+        /** An or waits until the part behind it is whole, an and only for its fact. */
         private boolean readTest(int depth) {
-            if (!readPart(depth)) {
-                return false;
-            }
-            for (int k = 0; k < MOST_BYTES && tape.isWord("or"); k++) {
-                tape.advance();
-                if (!readPart(depth)) {
-                    return false;
-                }
-                rule.put(Rule.OR);
-            }
-            return true;
-        }
-
-        private boolean readPart(int depth) {
-            if (!readFact(depth)) {
-                return false;
-            }
-            for (int k = 0; k < MOST_BYTES && tape.isWord("and"); k++) {
-                tape.advance();
+            boolean orWaits = false;
+            boolean andWaits = false;
+            for (int k = 0; k < MOST_BYTES; k++) {
                 if (!readFact(depth)) {
                     return false;
                 }
-                rule.put(Rule.AND);
+                if (andWaits) {
+                    rule.put(Rule.AND);
+                }
+                andWaits = tape.isWord("and");
+                if (!andWaits) {
+                    if (orWaits) {
+                        rule.put(Rule.OR);
+                    }
+                    orWaits = tape.isWord("or");
+                }
+                if (!andWaits && !orWaits) {
+                    return true;
+                }
+                tape.advance();
             }
-            return true;
+            return tape.refuse(CANNOT_STAND);
         }
 
         private boolean readFact(int depth) {
             boolean not = tape.isWord("not");
             if (!not && !tape.isSign('[')) {
-                return readComparison();
+                return readSum() && readComparison() && readSum() && rule.put(compared);
             }
             if (depth >= DEEPEST) {
                 return tape.refuse(TOO_DEEP);
@@ -1293,19 +1292,17 @@ public final class DownOnly {
             return readTest(depth + 1) && tape.passSign(']');
         }
 
+        /** Keeps the sign until the sum behind it is whole; a sum holds no other fact that could take its place. */
         private boolean readComparison() {
-            if (!readSum()) {
-                return false;
-            }
-            int sign = comparison();
-            if (sign == NONE) {
+            compared = comparison();
+            if (compared == NONE) {
                 return tape.refuse(CANNOT_STAND);
             }
             if (!countPart()) {
                 return false;
             }
             tape.advance();
-            return readSum() && rule.put(sign);
+            return true;
         }
 
         private int comparison() {
